@@ -422,7 +422,14 @@ public final class GoodsUnderWay {
 
     public int text() {
         thought.become(world);
-        int items = tape.readInto(thought);
+        tape.start();
+        int items = 0;
+        boolean goesOn = true;
+        for (int i = 0; i < TAPE && goesOn; i++) {
+            tape.readItem(thought);
+            items++;
+            goesOn = tape.takeSign();
+        }
         tape.size = 0;
         if (tape.fault >= 0) {
             return -1 - tape.fault;
@@ -1454,25 +1461,23 @@ public final class GoodsUnderWay {
             size++;
         }
 
-        /** How many items came to the world; with a fault it is to be thrown away. */
-        int readInto(World world) {
+        void start() {
             fault = -1;
             behind = 0;
             readToken();
-            int items = 0;
-            for (int i = 0; i <= TAPE; i++) {
-                readItem(world);
-                items++;
-                if (fault >= 0 || sort == END) {
-                    return items;
-                }
-                if (sort != SIGN) {
-                    fail();
-                    return items;
-                }
-                readToken();
+        }
+
+        /** Whether another item has to follow. */
+        boolean takeSign() {
+            if (fault >= 0 || sort == END) {
+                return false;
             }
-            return items;
+            if (sort != SIGN) {
+                fail();
+                return false;
+            }
+            readToken();
+            return true;
         }
 
         private void fail() {
@@ -1515,7 +1520,10 @@ public final class GoodsUnderWay {
         private int valueOfToken() {
             int v = 0;
             for (int i = place; i < behind; i++) {
-                v = Math.min(10 * v + bytes[i] - '0', NUMBER_MOST + 1);
+                v = 10 * v + bytes[i] - '0';
+                if (v > NUMBER_MOST) {
+                    return NUMBER_MOST + 1;
+                }
             }
             return v;
         }
@@ -1587,7 +1595,8 @@ public final class GoodsUnderWay {
             return isWord("pass") ? PASS : -1;
         }
 
-        private void readItem(World world) {
+        /** With a fault the world is to be thrown away. */
+        void readItem(World world) {
             int station = stationKind();
             int line = lineKind();
             if (station >= 0 && world.stations < STATIONS) {
