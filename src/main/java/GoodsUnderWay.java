@@ -1048,11 +1048,10 @@ public final class GoodsUnderWay {
             int sum = 0;
             for (int i = 0; i < lines; i++) {
                 int takes = line[i].takes();
+                // Ahead of this the goal's pairs are outside; it is n + 1 at most.
                 int entry = side.entry(line[i].to, n);
-                for (int k = side.entry(line[i].from, n); k + takes <= n; k++) {
-                    if (k + takes < entry) {
-                        sum += roomAhead(i, k, GREATEST);
-                    }
+                for (int k = side.entry(line[i].from, n); k + takes < entry; k++) {
+                    sum += roomAhead(i, k, GREATEST);
                 }
             }
             return sum;

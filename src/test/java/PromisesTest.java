@@ -337,6 +337,56 @@ public final class PromisesTest {
         station(x, 1, 3, 20);
     }
 
+    /** Far beyond the calls that are promised, but the only way to the last tick. */
+    private static void promise11AtTheEnd() {
+        GoodsUnderWay x = chain(50, 9, 1);
+        for (int i = 0; i < 1666; i++) {
+            x.go(60);
+        }
+        due(99960, x.now(0));
+        due(STATE, x.go(40));
+        due(BEYOND, x.go(61));
+        due(0, x.go(30));
+        write(x, 0, 0, 8, 5);
+        x.image();
+        due(STATE, x.go(10));
+        due(0, x.go(9));
+        due(99999, x.now(0));
+        x.undo();
+        due(STATE, x.run(0, 0, 10));
+        due(45, x.run(0, 0, 9));
+        due(99999, x.now(0));
+        due(STATE, x.go(1));
+        due(STATE, x.run(0, 0, 1));
+        due(45, x.run(0, 0, 0));
+        due(45, x.replay(0, 0, 1));
+        // From tick 99999 on it is LATER that counts, where no other tick was told.
+        due(0, x.most(2, 24));
+        due(5, x.most(1, 1));
+        x.change(0, 6, 9);
+        due(14, x.most(1, 1));
+        due(23, x.most(1, 2));
+    }
+
+    private static void promise12Edges() {
+        GoodsUnderWay x = new GoodsUnderWay();
+        x.station(1, 21);
+        x.station(1, 1);
+        x.station(1, 0);
+        x.line(0, 0, 1, 3, 1);
+        x.line(0, 1, 0, 3, 1);
+        x.line(0, 2, 0, 3, 1);
+        due(1, x.now(6));
+        due(3, x.now(7));
+        x.send(0, 2);
+        due(3, x.now(7));
+        x.send(0, 1);
+        due(2, x.now(7));
+        x.send(1, 1);
+        due(0, x.now(7));
+        due(0, x.now(6));
+    }
+
     private static void promise12() {
         GoodsUnderWay x = chain(50, 9, 2);
         x.station(1, 21);
@@ -389,6 +439,62 @@ public final class PromisesTest {
         x.change(0, 7, 3);
         dues(6, x.most(1, 3));
         dues(15, x.most(1, 4));
+    }
+
+    private static void promise13Holds() {
+        // A quay holds in even ticks, a vault ten more in each third one; here goods wait at them.
+        GoodsUnderWay x = new GoodsUnderWay();
+        x.station(2, 100);
+        x.station(0, 0);
+        x.set(0, 2, 5);
+        x.line(0, 0, 1, 1, 1);
+        x.change(0, 6, 99);
+        x.change(0, 7, 1);
+        due(100, x.most(1, 2));
+        x.go(1);
+        x.set(0, 1, 100);
+        x.change(0, 7, 2);
+        due(6, x.most(1, 2));
+        x.set(0, 0, 3);
+        due(6, x.most(1, 2));
+        x.go(2);
+        x.set(0, 1, 100);
+        x.change(0, 7, 4);
+        due(16, x.most(1, 2));
+        // What comes in the next tick, and 15 ticks ahead, and in a tick by sixteens.
+        x = chain(50, 9, 9);
+        x.change(0, 0, 4);
+        x.change(0, 5, 5);
+        x.go(5);
+        x.send(0, 20);
+        x.change(0, 3, 0);
+        x.go(1);
+        due(0, x.most(1, 13));
+        due(20, x.most(1, 14));
+        x = chain(50, 9, 9);
+        x.change(0, 0, 4);
+        x.change(0, 5, 5);
+        x.go(11);
+        x.change(0, 5, 4);
+        x.send(0, 20);
+        x.change(0, 3, 0);
+        due(0, x.most(1, 13));
+        due(20, x.most(1, 14));
+        x.change(0, 5, 5);
+        x.change(0, 3, 9);
+        x.send(0, 7);
+        x.change(0, 3, 0);
+        due(20, x.most(1, 14));
+        due(27, x.most(1, 15));
+        x.go(13);
+        due(0, x.most(1, 0));
+        due(20, x.most(1, 1));
+        due(27, x.most(1, 2));
+        x = chain(50, 9, 1);
+        x.go(15);
+        x.send(0, 9);
+        due(9, x.its(0, 11));
+        due(9, x.of(1, 4));
     }
 
     private static void promise14() {
@@ -461,6 +567,12 @@ public final class PromisesTest {
         due(50 + 3 * 9, x.cost(0, 2, 4));
         write(x, 0, 5, Long.MIN_VALUE, Long.MAX_VALUE, 0);
         due(57, x.cost(0, 2, 4));
+        write(x, 0, 0, 3);
+        due(7 + 9, x.cost(0, 2, 4));
+        write(x, 0, -1, -1, 4);
+        due(STATE, x.cost(0, 2, 4));
+        due(57, x.cost(0, 2, 3));
+        write(x, 0, 5, Long.MIN_VALUE, Long.MAX_VALUE, 0);
         // What is under way counts where it comes outside, by the last tick.
         x.send(0, 4);
         due(46 + 7 + 4, x.cost(0, 2, 4));
@@ -490,6 +602,17 @@ public final class PromisesTest {
         x.station(0, 9);
         due(BEYOND, x.lose(0, 25));
         due(NONE, x.lose(0, 24));
+    }
+
+    private static void promise18Narrow() {
+        GoodsUnderWay x = new GoodsUnderWay();
+        x.station(0, 99);
+        x.station(0, 0);
+        x.line(2, 0, 1, 3, 1);
+        x.line(0, 0, 1, 1, 1);
+        x.change(0, 5, 5);
+        due(1, x.lose(1, 10));
+        due(0, x.lose(1, 0));
     }
 
     private static void promise19() {
@@ -593,6 +716,10 @@ public final class PromisesTest {
         x.change(0, 3, 0);
         x.change(2, 3, 1);
         due(HIGH - 8, x.steady(0, 2, HIGH));
+        x.line(0, 0, 1, 1, 1);
+        x.line(0, 0, 1, 1, 2);
+        due(HIGH, x.steady(0, 1, 1073741824));
+        due(OVER, x.steady(0, 1, 1073741825));
         // Room is as in this tick, whatever was sent; nothing that is there counts.
         x = chain(50, 9, 2);
         x.set(1, 1, 30);
@@ -736,6 +863,8 @@ public final class PromisesTest {
         due(6, x.count(1));
         due(0, x.status(-1));
         due(0, x.count(5));
+        due(1, Check.read(x, "road 0 5 wide 9 long 9 tide 0"));
+        line(x, 7, 0, 0, 5, 9, 9, 0, 0, 99999);
     }
 
     private static void promise30Faults() {
@@ -750,6 +879,12 @@ public final class PromisesTest {
         fault("", "Yard", 0);
         fault("", "yard\tstock 1", 4);
         fault("", "yardX", 4);
+        fault("", "yardz", 0);
+        fault("", "yarda", 0);
+        fault("", "yard`", 4);
+        fault("", "yard{", 4);
+        fault("", "yard stock/", 10);
+        fault("", "yard stock:", 10);
         fault("", "yardstock 1", 0);
         fault("", "yard stock", 10);
         fault("", "yard stock ;", 11);
@@ -950,7 +1085,7 @@ public final class PromisesTest {
 
     private static void promise36Fails() {
         GoodsUnderWay x = chain(50, 9, 1);
-        long[][] plans = {{2, 0, 1}, {-1, 0, 1}, {0, 0, -1}, {0, 0, 51}, {0, 0, 10}, {1, 0, 1}, {1L << 32, 0, 1},
+        long[][] plans = {{2, 0, 1}, {2, 0, 0}, {-1, 0, 0}, {-1, 0, 1}, {0, 0, -1}, {0, 0, 51}, {0, 0, 10}, {1, 0, 1}, {1L << 32, 0, 1},
             {0, 0, 1L << 32}, {0, 0, Long.MAX_VALUE}, {0, 0, Long.MIN_VALUE}};
         int before = x.status(-1);
         for (long[] plan : plans) {
@@ -988,6 +1123,11 @@ public final class PromisesTest {
         due(50, x.of(0, 1));
         due(50, x.run(0, 0, 0));
         due(0, x.now(0));
+        x.image();
+        due(0, x.run(0, 2, 1));
+        due(1, x.now(0));
+        due(41, x.of(0, 1));
+        x.undo();
         due(9, x.run(0, 1, 2));
         due(2, x.now(0));
         due(38, x.of(0, 1));
@@ -1125,10 +1265,13 @@ public final class PromisesTest {
         promise10();
         at = "promise 11";
         promise11();
+        promise11AtTheEnd();
         at = "promise 12";
         promise12();
+        promise12Edges();
         at = "promise 13";
         promise13();
+        promise13Holds();
         at = "promise 14";
         promise14();
         at = "promise 15";
@@ -1139,6 +1282,7 @@ public final class PromisesTest {
         promise17();
         at = "promise 18";
         promise18();
+        promise18Narrow();
         at = "promise 19";
         promise19();
         at = "promise 20";
