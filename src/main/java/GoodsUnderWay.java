@@ -778,11 +778,6 @@ public final class GoodsUnderWay {
             return sum;
         }
 
-        /** What comes so many ticks behind tick; nothing is under way for longer than the ring. */
-        int comes(int tick, int ahead) {
-            return isIn(ahead, 1, RING - 1) ? way[(tick + ahead) % RING] : 0;
-        }
-
         int setting(int what) {
             switch (what) {
                 case 0: return kind;
@@ -1017,9 +1012,10 @@ public final class GoodsUnderWay {
                 return station[s].stock;
             }
             int sum = 0;
-            for (int i = 0; i < lines; i++) {
+            // Nothing is under way for as long as the ring goes round.
+            for (int i = 0; i < lines && ahead < RING; i++) {
                 if (line[i].to == s) {
-                    sum += line[i].comes(tick, ahead);
+                    sum += line[i].way[(tick + ahead) % RING];
                 }
             }
             return sum;
@@ -1048,7 +1044,7 @@ public final class GoodsUnderWay {
             int sum = 0;
             for (int i = 0; i < lines; i++) {
                 int takes = line[i].takes();
-                // Ahead of this the goal's pairs are outside; it is n + 1 at most.
+                // Earlier pairs of the line's end are outside; n + 1 if all are, so none comes too late.
                 int entry = side.entry(line[i].to, n);
                 for (int k = side.entry(line[i].from, n); k + takes < entry; k++) {
                     sum += roomAhead(i, k, GREATEST);
