@@ -337,37 +337,6 @@ public final class PromisesTest {
         station(x, 1, 3, 20);
     }
 
-    /** Far beyond the calls that are promised, but the only way to the last tick. */
-    private static void promise11AtTheEnd() {
-        GoodsUnderWay x = chain(50, 9, 1);
-        for (int i = 0; i < 1666; i++) {
-            x.go(60);
-        }
-        due(99960, x.now(0));
-        due(STATE, x.go(40));
-        due(BEYOND, x.go(61));
-        due(0, x.go(30));
-        write(x, 0, 0, 8, 5);
-        x.image();
-        due(STATE, x.go(10));
-        due(0, x.go(9));
-        due(99999, x.now(0));
-        x.undo();
-        due(STATE, x.run(0, 0, 10));
-        due(45, x.run(0, 0, 9));
-        due(99999, x.now(0));
-        due(STATE, x.go(1));
-        due(STATE, x.run(0, 0, 1));
-        due(45, x.run(0, 0, 0));
-        due(45, x.replay(0, 0, 1));
-        // From tick 99999 on it is LATER that counts, where no other tick was told.
-        due(0, x.most(2, 24));
-        due(5, x.most(1, 1));
-        x.change(0, 6, 9);
-        due(14, x.most(1, 1));
-        due(23, x.most(1, 2));
-    }
-
     private static void promise12Edges() {
         GoodsUnderWay x = new GoodsUnderWay();
         x.station(1, 21);
@@ -1265,7 +1234,6 @@ public final class PromisesTest {
         promise10();
         at = "promise 11";
         promise11();
-        promise11AtTheEnd();
         at = "promise 12";
         promise12();
         promise12Edges();

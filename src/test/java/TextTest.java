@@ -2,7 +2,7 @@ import java.util.Random;
 
 /** Random texts, whole and broken, on the program and on the model. */
 public final class TextTest {
-    private static final int OBJECTS = 3000;
+    private static final int OBJECTS = 7500;
     private static final String[] STATIONS = {"yard", "shed", "quay", "vault"};
     private static final String[] LINES = {"road", "rail", "ferry", "express", "barge", "pass"};
     private static final String[] PIECES = {"yard", "shed", "road", "pass", "stock", "store", "wide", "long", "tide",
@@ -90,9 +90,9 @@ public final class TextTest {
     public static void main(String[] args) {
         for (int i = 0; i < OBJECTS; i++) {
             TextTest test = new TextTest(i);
-            for (int j = 0; j < 5; j++) {
-                test.compare(test.text());
-            }
+            // More texts would be more than 512 calls.
+            test.compare(test.text());
+            test.compare(test.text());
         }
         Check.end();
     }
